@@ -345,13 +345,12 @@ public final class NewsCows {
             history.keep(life);
         }
         draws.seed = seed;
-        int gone = 0;
-        while (gone < n && life.day < DAYS) {
+        int from = life.day;
+        for (int k = 0; k < n && life.day < DAYS; k++) {
             draws.tellAndFind(life);
-            life.goDay();
-            gone++;
+            life.goDays(1);
         }
-        return gone;
+        return life.day - from;
     }
 
     public int odds(int c, int n, int seed) {
@@ -526,20 +525,26 @@ public final class NewsCows {
         static final int NAME = 3;
         static final int NUMBER = 4;
         static final int SIGN = 5;
+        private static final int TOKENS = DAIRY_BYTES + 1;
 
-        final byte[] bytes = new byte[TAPE_BYTES];
-        final long[] words = new long[WORDS_TOLD];
+        private final byte[] bytes = new byte[TAPE_BYTES];
         int size;
-        int fault;
-        int faultPlace;
-        // How many bytes the text may have, and where the next TOKEN is looked for.
-        private int most;
-        private int cursor;
-        // The TOKEN at hand: a told WORD's number, a NUMBER's value or a sign's byte.
-        int place;
+        private final long[] words = new long[WORDS_TOLD];
+        // The TOKENS of a text: a told WORD's number, a NUMBER's value or a sign's byte; the letters of a WORD.
+        private final int[] places = new int[TOKENS];
+        private final int[] kinds = new int[TOKENS];
+        private final int[] values = new int[TOKENS];
+        private final long[] spellings = new long[TOKENS];
+        private int tokens;
+        private int ahead;
+        private boolean isTooLong;
+        // The TOKEN at hand.
+        private int place;
         int kind;
         int value;
-        long letters;
+        long spelling;
+        int fault;
+        int faultPlace;
 
         Tape() {
             int word = 0;
@@ -553,15 +558,15 @@ public final class NewsCows {
             }
         }
 
-        static long withLetter(long word, int letter) {
+        private static long withLetter(long word, int letter) {
             return word << 5 | (letter & 31);
         }
 
-        static boolean isLetter(int b) {
+        private static boolean isLetter(int b) {
             return b >= 'a' && b <= 'z';
         }
 
-        static boolean isDigit(int b) {
+        private static boolean isDigit(int b) {
             return b >= '0' && b <= '9';
         }
 
@@ -578,69 +583,82 @@ public final class NewsCows {
             return k >= 0 && k < TAPE_BYTES ? bytes[k] & 255 : NONE;
         }
 
+        /** Reads all TOKENS that begin within so many bytes; the end is one of them. */
         void start(int mostBytes) {
-            most = mostBytes;
-            cursor = 0;
+            int stop = Math.min(size, mostBytes);
+            isTooLong = size > mostBytes;
             fault = 0;
             faultPlace = 0;
+            tokens = 0;
+            ahead = 0;
+            int read = 0;
+            for (int k = 0; k < stop; k++) {
+                int b = at(k);
+                if (k >= read && (isLetter(b) || isDigit(b))) {
+                    read = k + addRun(k);
+                } else if (k >= read && b != ' ' && b != '\n') {
+                    add(k, ";<=>()".indexOf((char) b) >= 0 ? SIGN : NO_TOKEN, b, 0);
+                }
+            }
+            add(stop, END, 0, 0);
+        }
+
+        private int addRun(int from) {
+            int length = 0;
+            int letters = 0;
+            int number = 0;
+            long letterBits = 0;
+            for (int k = from; k < size && (isLetter(at(k)) || isDigit(at(k))); k++) {
+                length++;
+                if (isLetter(at(k))) {
+                    letterBits = withLetter(letterBits, at(k));
+                    letters++;
+                } else {
+                    number = number * 10 + at(k) - '0';
+                }
+            }
+            if (letters == length && length <= 7) {
+                int word = toldWord(letterBits);
+                add(from, word == NONE ? NAME : WORD, word, letterBits);
+            } else {
+                add(from, letters == 0 && length <= 3 ? NUMBER : NO_TOKEN, number, 0);
+            }
+            return length;
+        }
+
+        private int toldWord(long letterBits) {
+            for (int k = 0; k < WORDS_TOLD; k++) {
+                if (words[k] == letterBits) {
+                    return k;
+                }
+            }
+            return NONE;
+        }
+
+        private void add(int from, int tokenKind, int tokenValue, long letterBits) {
+            if (tokens < TOKENS) {
+                places[tokens] = from;
+                kinds[tokens] = tokenKind;
+                values[tokens] = tokenValue;
+                spellings[tokens] = letterBits;
+                tokens++;
+            }
+        }
+
+        void next() {
+            if (ahead >= 0 && ahead < tokens && ahead < TOKENS) {
+                place = places[ahead];
+                kind = kinds[ahead];
+                value = values[ahead];
+                spelling = spellings[ahead];
+                ahead++;
+            }
         }
 
         boolean fail(int faultKind) {
             fault = faultKind;
             faultPlace = place;
             return false;
-        }
-
-        void next() {
-            int stop = Math.min(size, most);
-            while (cursor < stop && (at(cursor) == 32 || at(cursor) == 10)) {
-                cursor++;
-            }
-            if (cursor >= stop) {
-                place = stop;
-                kind = END;
-                return;
-            }
-            place = cursor;
-            if (isLetter(at(cursor)) || isDigit(at(cursor))) {
-                nextRun();
-            } else {
-                value = at(cursor);
-                kind = ";<=>()".indexOf((char) value) >= 0 ? SIGN : NO_TOKEN;
-                cursor++;
-            }
-        }
-
-        private void nextRun() {
-            int letterCount = 0;
-            int digitCount = 0;
-            letters = 0;
-            value = 0;
-            while (cursor < size && (isLetter(at(cursor)) || isDigit(at(cursor)))) {
-                if (isLetter(at(cursor))) {
-                    letters = withLetter(letters, at(cursor));
-                    letterCount++;
-                } else {
-                    value = value * 10 + at(cursor) - '0';
-                    digitCount++;
-                }
-                cursor++;
-            }
-            if (digitCount == 0 && letterCount <= 7) {
-                value = toldWord();
-                kind = value == NONE ? NAME : WORD;
-            } else {
-                kind = letterCount == 0 && digitCount <= 3 ? NUMBER : NO_TOKEN;
-            }
-        }
-
-        private int toldWord() {
-            for (int k = 0; k < WORDS_TOLD; k++) {
-                if (words[k] == letters) {
-                    return k;
-                }
-            }
-            return NONE;
         }
 
         int word() {
@@ -674,7 +692,7 @@ public final class NewsCows {
         }
 
         boolean mustEnd() {
-            return kind == END && size <= most || fail(FAULT_TOKEN);
+            return kind == END && !isTooLong || fail(FAULT_TOKEN);
         }
     }
 
@@ -747,9 +765,9 @@ public final class NewsCows {
             return (1 << news) - 1;
         }
 
-        private int slotOf(long letters) {
+        private int slotOf(long spelling) {
             for (int k = 0; k < NAMES; k++) {
-                if (names[k] == letters) {
+                if (names[k] == spelling) {
                     return k;
                 }
             }
@@ -762,39 +780,25 @@ public final class NewsCows {
             if (tape.kind != Tape.NAME) {
                 return tape.fail(FAULT_TOKEN);
             }
-            if (slotOf(tape.letters) != NONE || slot < 0 || slot >= NAMES) {
+            if (slotOf(tape.spelling) != NONE || slot < 0 || slot >= NAMES) {
                 return tape.fail(FAULT_NAME);
             }
-            names[slot] = tape.letters;
+            names[slot] = tape.spelling;
             return true;
         }
 
-        /** The number of the one that the TOKEN at hand names; NONE, and a FAULT, if it names none of the sort. */
-        private int named(Tape tape, int firstSlot, int slots) {
+        /** The number of what the TOKEN at hand names; NONE, and a FAULT, if it names none of the sort. */
+        int named(Tape tape, int firstSlot, int slots) {
             if (tape.kind != Tape.NAME) {
                 tape.fail(FAULT_TOKEN);
                 return NONE;
             }
-            int number = slotOf(tape.letters) - firstSlot;
+            int number = slotOf(tape.spelling) - firstSlot;
             if (number < 0 || number >= slots) {
                 tape.fail(FAULT_NAME);
                 return NONE;
             }
             return number;
-        }
-
-        int nextFarm(Tape tape) {
-            tape.next();
-            return named(tape, FARM_NAMES, FARMS);
-        }
-
-        int nextNews(Tape tape) {
-            tape.next();
-            return named(tape, NEWS_NAMES, NEWS);
-        }
-
-        int cowHere(Tape tape) {
-            return named(tape, COW_NAMES, COWS);
         }
 
         int hedgesOf(int f) {
@@ -890,7 +894,8 @@ public final class NewsCows {
             if (!dairy.nextNewName(tape, COW_NAMES + c)) {
                 return false;
             }
-            int f = dairy.nextFarm(tape);
+            tape.next();
+            int f = dairy.named(tape, FARM_NAMES, FARMS);
             if (f < 0 || f >= FARMS || !tape.nextNumber(1, 40)) {
                 return false;
             }
@@ -940,11 +945,13 @@ public final class NewsCows {
         }
 
         private boolean readHedge() {
-            int f = dairy.nextFarm(tape);
+            tape.next();
+            int f = dairy.named(tape, FARM_NAMES, FARMS);
             if (f < 0) {
                 return false;
             }
-            int g = dairy.nextFarm(tape);
+            tape.next();
+            int g = dairy.named(tape, FARM_NAMES, FARMS);
             if (g < 0) {
                 return false;
             }
@@ -1109,58 +1116,51 @@ public final class NewsCows {
         /** What a COW that is neither dry nor CURDLED gives, but it may be below 0 yet. */
         int sumOf(int c) {
             int sum = dairy.gives[c];
+            int others = heardByOthers(c);
             for (int n = 0; n < dairy.news; n++) {
                 if ((heard[c] >> n & 1) == 1) {
-                    sum += addedBy(c, n, (stale[c] >> n & 1) == 1);
+                    sum += addedBy(n, others, stale[c]);
                 }
                 if ((heardBefore[c] >> n & 1) == 1 && dairy.kind[n] == KIND_WEATHER) {
-                    sum += dairy.isLie(n) ? -dairy.worth[n] : dairy.worth[n];
+                    sum += (dairy.lies >> n & 1) == 1 ? -dairy.worth[n] : dairy.worth[n];
                 }
             }
             return sum;
         }
 
-        /** What NEWS that she has not heard on this DAY would add, if she were told. */
-        int wouldAdd(int c, int n) {
-            return addedBy(c, n, (knows[c] >> n & 1) == 1);
-        }
-
-        private int addedBy(int c, int n, boolean isStale) {
+        /** What NEWS add to the milk of a COW that hears them, by what others of her FARM heard and what is STALE to her. */
+        int addedBy(int n, int others, int stales) {
             if (dairy.kind[n] != KIND_PLAIN && dairy.kind[n] != KIND_SCANDAL) {
                 return 0;
             }
             int added = dairy.worth[n];
-            if (dairy.isLie(n) && (found >> n & 1) == 0) {
+            if (((dairy.lies & ~found) >> n & 1) == 1) {
                 added += 5;
             }
-            if (dairy.kind[n] == KIND_SCANDAL && isHeardByAnother(c, n)) {
+            if (dairy.kind[n] == KIND_SCANDAL && (others >> n & 1) == 1) {
                 added *= 2;
             }
-            return isStale ? added / 2 : added;
+            return (stales >> n & 1) == 1 ? added / 2 : added;
         }
 
-        private boolean isHeardByAnother(int c, int n) {
+        int heardByOthers(int c) {
+            int bits = 0;
             for (int other = 0; other < dairy.cows; other++) {
-                if (other != c && dairy.farmOf[other] == dairy.farmOf[c] && (heard[other] >> n & 1) == 1) {
-                    return true;
+                if (other != c && dairy.farmOf[other] == dairy.farmOf[c]) {
+                    bits |= heard[other];
                 }
             }
-            return false;
+            return bits;
         }
 
         int goDays(int most) {
-            int gone = 0;
-            while (gone < most && day < DAYS) {
-                goDay();
-                gone++;
+            int from = day;
+            for (int k = 0; k < most && day < DAYS; k++) {
+                fillPails();
+                talk();
+                turn();
             }
-            return gone;
-        }
-
-        void goDay() {
-            fillPails();
-            talk();
-            turn();
+            return day - from;
         }
 
         private void fillPails() {
@@ -1314,25 +1314,22 @@ public final class NewsCows {
 
         private boolean readLine(Tape tape, Dairy dairy) {
             int word = tape.word();
-            boolean isAct = word == WORD_FOUND || word == WORD_DAY;
-            int c = isAct ? 0 : dairy.cowHere(tape);
+            boolean isHeard = word != WORD_FOUND && word != WORD_DAY;
+            int c = isHeard ? dairy.named(tape, COW_NAMES, COWS) : 0;
             if (c < 0) {
                 return false;
             }
             if (lines >= BOOK_LINES) {
                 return tape.fail(FAULT_MORE);
             }
-            if (!isAct) {
+            if (isHeard) {
                 tape.next();
                 word = tape.word();
                 if (word != WORD_HEARS) {
                     return tape.fail(FAULT_TOKEN);
                 }
             }
-            if (word == WORD_DAY && !tape.nextNumber(1, DAYS_AT_ONCE)) {
-                return false;
-            }
-            int arg = word == WORD_DAY ? tape.value : dairy.nextNews(tape);
+            int arg = readArg(tape, dairy, word);
             if (arg < 0 || !tape.closesLine()) {
                 return false;
             }
@@ -1343,15 +1340,21 @@ public final class NewsCows {
             return true;
         }
 
+        private static int readArg(Tape tape, Dairy dairy, int word) {
+            if (word == WORD_DAY) {
+                return tape.nextNumber(1, DAYS_AT_ONCE) ? tape.value : NONE;
+            }
+            tape.next();
+            return dairy.named(tape, NEWS_NAMES, NEWS);
+        }
+
         int judge(Life life) {
             isJudged = true;
             whyWrong = 0;
             rightLines = 0;
-            while (rightLines < lines && whyWrong == 0) {
-                whyWrong = live(life, rightLines);
-                if (whyWrong == 0) {
-                    rightLines++;
-                }
+            for (int k = 0; k < lines && whyWrong == 0; k++) {
+                whyWrong = live(life, k);
+                rightLines = whyWrong == 0 ? k + 1 : k;
             }
             dayThen = life.day;
             dryThen = life.dry;
@@ -1474,9 +1477,11 @@ public final class NewsCows {
             int compared = 0;
             int value = 0;
             if (word == WORD_AT) {
-                value = dairy.nextFarm(tape);
+                tape.next();
+                value = dairy.named(tape, FARM_NAMES, FARMS);
             } else if (word == WORD_KNOWS || word == WORD_HEARD) {
-                value = dairy.nextNews(tape);
+                tape.next();
+                value = dairy.named(tape, NEWS_NAMES, NEWS);
             } else if (word != WORD_DRY && word != WORD_CURDLED) {
                 tape.next();
                 compared = tape.value;
@@ -1582,9 +1587,10 @@ public final class NewsCows {
             room = dairy.hears - Integer.bitCount(life.heard[c]);
             sum = life.sumOf(c);
             isCurdled = life.isCurdled(c);
+            int others = life.heardByOthers(c);
             adds[0] = 0;
             for (int n = 0; n < dairy.news; n++) {
-                int added = life.wouldAdd(c, n);
+                int added = life.addedBy(n, others, life.knows[c]);
                 for (int set = 0; set < 1 << n; set++) {
                     adds[set | 1 << n] = adds[set] + added;
                 }
@@ -1739,12 +1745,13 @@ public final class NewsCows {
         private void goLast(Life today, int c, int k, int sum) {
             boolean givesNone = today.isDry(c) || today.isCurdled(c);
             int untold = today.sumOf(c);
+            int others = today.heardByOthers(c);
             for (int n = 0; n < dairy.news; n++) {
                 if (today.whyNotTold(c, n) == 0) {
                     path[k] = n;
                     boolean curdles = dairy.kind[n] == KIND_WAR;
-                    int milk = givesNone || curdles ? 0 : Math.max(0, untold + today.wouldAdd(c, n));
-                    weigh(sum + milk);
+                    int added = today.addedBy(n, others, today.knows[c]);
+                    weigh(sum + (givesNone || curdles ? 0 : Math.max(0, untold + added)));
                 }
             }
             path[k] = NONE;
