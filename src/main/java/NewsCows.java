@@ -377,12 +377,14 @@ public final class NewsCows {
         if (!isRead) {
             return -2 - tape.faultPlace;
         }
-        if (lives == 1) {
-            history.keep(life);
-            return bookRead.judge(life);
-        }
         trial.copyFrom(life);
-        return bookRead.judge(trial);
+        int wrong = bookRead.judge(trial);
+        // A BOOK of which no LINE was lived is no act that can be undone.
+        if (lives == 1 && bookRead.rightLines > 0) {
+            history.keep(life);
+            life.copyFrom(trial);
+        }
+        return wrong;
     }
 
     public int written(int what) {

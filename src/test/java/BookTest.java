@@ -1,4 +1,4 @@
-/** Promises 33, 34 and 5: books, read, judged and lived. */
+/** Promises 33, 34, 5 and 13: books, read, judged, lived and undone. */
 public final class BookTest {
     private static final String DAIRY = "farm f;farm g;cow a f 10 1 3;cow b g 5 9 3;news p plain 6;news l plain 2 lie;news w war 1;"
         + "news s scandal 3 lie;hedge f g 1;hears 2;";
@@ -6,6 +6,7 @@ public final class BookTest {
     public static void main(String[] args) {
         judged();
         lived();
+        noLineLived();
         wrong();
         faults();
         lines();
@@ -33,8 +34,26 @@ public final class BookTest {
         // As far as it is not WRONG.
         run.tape("b hears p;day 1;b hears p;b hears p;day 9;").due(3, "book", 1).due(2, "written", 0).due(3, "written", 1).due(1, "written", 2);
         run.due(0, "written", 3).due(1, "now", 0).due(2, "now", 4).due(0, "undo").due(0, "now", 0).due(0, "now", 4);
-        // What was lived up to its first LINE alone is an act all the same.
-        run.tape("found p;").due(0, "book", 1).due(11, "written", 0).due(0, "undo").due(-1, "undo");
+    }
+
+    private static void noLineLived() {
+        Run run = new Run("no line lived, new object").due(-1, "book", 1).due(0, "written", 1).due(-1, "undo");
+        run = start("no line lived").tape("").due(-1, "book", 1).due(0, "written", 0).due(0, "written", 1).due(-1, "undo");
+        run.tape("  \n ").due(-1, "book", 1).due(0, "count", 5).due(-1, "undo");
+        run.tape("found p;").due(0, "book", 1).due(11, "written", 0).due(0, "written", 1).due(-1, "undo");
+        run.tape("found p;day 3;").due(0, "book", 1).due(0, "now", 0).due(-1, "undo");
+        // One LINE is enough.
+        run.tape("a hears p;found p;").due(1, "book", 1).due(1, "now", 4).due(0, "undo").due(0, "now", 4).due(-1, "undo");
+        // The eight acts that are kept stay kept, the oldest with them.
+        for (int k = 0; k < 8; k++) {
+            run.due(1, "days", 1);
+        }
+        run.tape("").due(-1, "book", 1).tape("found p;").due(0, "book", 1).due(8, "written", 2).due(7, "undo").due(7, "now", 0);
+        run.tape("").due(-1, "book", 1).tape("a hears l;").due(-1, "book", 1).due(1, "now", 4).due(7, "undo").due(0, "now", 4);
+        for (int k = 6; k >= 0; k--) {
+            run.due(k, "undo").due(k, "now", 0);
+        }
+        run.due(-1, "undo").due(0, "now", 0);
     }
 
     private static void wrong() {

@@ -831,7 +831,7 @@ final class Model {
             }
         }
         written = new int[] {why, right, t.day, cowBits(c -> dry(t, c))};
-        if (lives == 1) {
+        if (lives == 1 && right > 0) {
             keep();
             s = t;
         }
