@@ -5,6 +5,8 @@ import java.util.Random;
 
 /** Random runs of calls: the class and the plain model must answer alike. */
 public final class ModelTest {
+    // The last step makes some more; together they stay below the 512 that an object is promised for.
+    private static final int CALLS = 400;
     private static final String[] WORDS = {"farm", "cow", "news", "lie", "plain", "scandal", "war", "weather", "hedge",
         "hears", "found", "day", "or", "and", "not", "dry", "curdled", "at", "knows", "heard", "milk", "given", "doubts",
         "number", ";", "<", "=", ">", "(", ")", "0", "1", "7", "41", "999", "1000", "x", "fa", "ca", "na", "A", ".",
@@ -43,13 +45,23 @@ public final class ModelTest {
     private void run() {
         boolean isBusy = random.nextInt(3) == 0;
         newDairy();
-        while (calls.size() < 480 && !isWrong) {
+        if (random.nextInt(5) == 0) {
+            toTheLastDays();
+        }
+        while (calls.size() < CALLS && !isWrong) {
             if (isBusy && random.nextInt(3) > 0) {
                 call("tell", cow(), news());
             } else {
                 step();
             }
         }
+    }
+
+    private void toTheLastDays() {
+        for (int k = 0; k < 6; k++) {
+            call("days", 60);
+        }
+        call("days", 10 + upTo(29));
     }
 
     private void call(String name, int... args) {
@@ -64,6 +76,12 @@ public final class ModelTest {
 
     private int upTo(int n) {
         return random.nextInt(n + 1);
+    }
+
+    /** One of 1 to n; the edges come often. */
+    private int from1To(int n) {
+        int which = random.nextInt(6);
+        return which == 0 ? 1 : which == 1 ? n : 1 + random.nextInt(which == 2 ? n : Math.min(n, 4));
     }
 
     private int odd(int usual) {
@@ -130,8 +148,7 @@ public final class ModelTest {
         }
         for (int c = 0; c < herd; c++) {
             text.append("cow ").append(name('c', c)).append(' ').append(name('f', random.nextInt(farms))).append(' ')
-                .append(1 + upTo(random.nextBoolean() ? 39 : 4)).append(' ').append(1 + upTo(3)).append(' ')
-                .append(1 + upTo(random.nextBoolean() ? 29 : 2)).append(';');
+                .append(from1To(40)).append(' ').append(from1To(9)).append(' ').append(from1To(30)).append(';');
         }
         String[] kinds = {"plain", "scandal", "scandal", "plain", "weather", "war"};
         for (int n = 0; n < stories; n++) {
@@ -143,12 +160,12 @@ public final class ModelTest {
                 if (random.nextInt(3) > 0) {
                     boolean isTurned = random.nextBoolean();
                     text.append("hedge ").append(name('f', isTurned ? g : f)).append(' ')
-                        .append(name('f', isTurned ? f : g)).append(' ').append(1 + upTo(random.nextBoolean() ? 8 : 2)).append(';');
+                        .append(name('f', isTurned ? f : g)).append(' ').append(from1To(9)).append(';');
                 }
             }
         }
         if (random.nextInt(4) > 0) {
-            text.append("hears ").append(1 + upTo(4)).append(';');
+            text.append("hears ").append(from1To(5)).append(';');
         }
         text(spoiled(text.toString(), 8));
         call("dairy");

@@ -8,12 +8,15 @@ final class Run {
     /** What is due where a call throws NoSuchElementException. */
     static final long THROWS = Long.MIN_VALUE;
     static final long OTHER_EXCEPTION = Long.MIN_VALUE + 1;
+    /** What an object answers behind so many calls is free, so no test may ask for it. */
+    private static final int CALLS_OF_AN_OBJECT = 512;
 
     private static int wrong;
     private static int calls;
 
     private final String name;
     final NewsCows cows = new NewsCows();
+    private int made;
 
     Run(String name) {
         this.name = name;
@@ -33,6 +36,7 @@ final class Run {
     }
 
     Run tape(byte[] bytes) {
+        made += 2 + (bytes.length + 19) / 20;
         cows.end(0);
         for (int from = 0; from < bytes.length; from += 20) {
             int[] numbers = new int[5];
@@ -49,6 +53,10 @@ final class Run {
 
     Run due(long want, String call, int... args) {
         calls++;
+        made++;
+        if (made > CALLS_OF_AN_OBJECT) {
+            throw new IllegalStateException(name + ": more calls of one object than are promised");
+        }
         long got = answer(cows, call, args);
         if (got != want) {
             wrong++;
@@ -64,6 +72,33 @@ final class Run {
         due(base - place, call, args);
         due(kind, "fault");
         return due(0, "count", 5);
+    }
+
+    /** A text in which ^ stands ahead of its FAULT. */
+    Run fault(int kind, String call, String marked, int... args) {
+        int place = marked.indexOf('^');
+        if (place < 0) {
+            throw new IllegalStateException(name + ": no place is marked in " + marked);
+        }
+        return faulty(kind, place, call, marked.substring(0, place) + marked.substring(place + 1), args);
+    }
+
+    /** A text without a FAULT. */
+    Run whole(long want, String call, String text, int... args) {
+        return tape(text).due(want, call, args).due(0, "fault").due(0, "count", 5);
+    }
+
+    /** How many calls more the object is promised for. */
+    int left() {
+        return CALLS_OF_AN_OBJECT - made;
+    }
+
+    /** DAYS go by till it is this one. */
+    Run till(int day) {
+        for (int left = day - cows.now(0); left > 0; left -= 60) {
+            due(Math.min(60, left), "days", Math.min(60, left));
+        }
+        return due(day, "now", 0);
     }
 
     static String written(String call, int... args) {
@@ -106,6 +141,14 @@ final class Run {
             return OTHER_EXCEPTION;
         } catch (IllegalAccessException e) {
             throw new IllegalStateException(e);
+        }
+    }
+
+    /** Two looks that must tell the same. */
+    static void alike(String name, String want, String got) {
+        calls++;
+        if (!want.equals(got)) {
+            fail(name + ":\n  due is   " + want + "\n  there is " + got);
         }
     }
 

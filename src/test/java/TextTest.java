@@ -80,10 +80,12 @@ public final class TextTest {
         run.faulty(1, 8, "dairy", "farm a; \u00e4");
         for (String word : ("farm cow news lie plain scandal war weather hedge hears found day or and not dry curdled at knows "
             + "heard milk given doubts number").split(" ")) {
+            run = new Run("told word " + word);
             run.faulty(1, 5, "dairy", "farm " + word + ";");
             run.faulty(1, 4, "dairy", "cow " + word + " a 1 1 1;");
             run.faulty(1, 13, "dairy", "farm a;hedge " + word + " a 1;");
         }
+        run = new Run("tokens of lines");
         run.faulty(1, 7, "dairy", "news a odd 1;");
         run.faulty(1, 7, "dairy", "news a lie 1;");
         run.faulty(1, 7, "dairy", "news a hedge 1;");
@@ -162,6 +164,7 @@ public final class TextTest {
         String whole = "farm a;farm b;cow c a 1 1 1;news n plain 1 lie;hedge a b 1;hears 2;";
         for (int length = 1; length < whole.length(); length++) {
             String text = whole.substring(0, length);
+            run = new Run("end at " + length);
             if (text.endsWith(";")) {
                 run.tape(text).due(text.split(";").length, "dairy").due(0, "fault");
             } else if (text.matches("(.*;)?[a-z]*") && !text.matches("(.*;)?(farm|cow|news|hedge|hears)")) {
@@ -185,6 +188,7 @@ public final class TextTest {
         run.faulty(1, 900, "dairy", " ".repeat(894) + "farm a;farm a;");
         run.faulty(1, 900, "dairy", " ".repeat(893) + "farm a;farm a;");
         run.faulty(1, 893, "dairy", " ".repeat(893) + "farms a;");
+        run = new Run("begun ahead of the end");
         // A TOKEN that begins ahead of the 900th byte is read whole.
         run.faulty(1, 900, "dairy", " ".repeat(894) + "farm abcdefg;");
         run.faulty(1, 899, "dairy", " ".repeat(894) + "farm abcdefgh;");
