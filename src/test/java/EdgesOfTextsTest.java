@@ -29,6 +29,7 @@ public final class EdgesOfTextsTest {
         onesOfSentence();
         within();
         comparing();
+        saidOfCows();
         firstAlongTheText();
         leastOfOneToken();
         whatCannotCome();
@@ -251,6 +252,19 @@ public final class EdgesOfTextsTest {
         run.due(0, "said", 0);
         // All that she gave may be more than a NUMBER can tell.
         run.till(100).whole(1, "sentence", "given>999").due(1, "said", -1).due(0, "said", 0).whole(1, "sentence", "given=500").due(1, "said", 0);
+    }
+
+    private static void saidOfCows() {
+        Run run = withDairy(Quotes.term("'dry' | 'curdled' | 'at' FARM | 'knows' NEWS (she REMEMBERS it) | 'heard' NEWS (on this DAY)"));
+        run.due(0, "tell", 0, 0).due(0, "tell", 0, 1).whole(1, "sentence", "heard p").due(1, "said", -1).due(0, "said", 0).till(1).due(0, "said", -1);
+        run.whole(1, "sentence", "knows p").due(1, "said", -1).till(3).due(1, "said", -1).till(4).due(0, "said", -1).due(0, "tell", 0, 1).due(0, "find", 1);
+        run.whole(1, "sentence", "dry").due(1, "said", -1).due(0, "said", 0).whole(1, "sentence", "at g").due(1, "said", -1).due(1, "said", 0).whole(1, "sentence", "curdled").due(0, "said", -1);
+        run = withDairy(Quotes.term("(what she gives today; all that she gave so far; lies found; her number)"));
+        run.due(0, "tell", 1, 1).whole(1, "sentence", "milk=12").due(1, "said", -1).due(1, "said", 0).whole(1, "sentence", "given>0").due(0, "said", -1).till(1).due(2, "said", -1);
+        run.whole(1, "sentence", "given=12").due(1, "said", 0).whole(1, "sentence", "doubts>0").due(0, "said", -1).due(0, "find", 1).due(1, "said", 0).whole(1, "sentence", "number=1").due(1, "said", 0);
+        run = Quotes.term("It is said of COWS.");
+        run.whole(2, "sentence", "not dry").due(0, "said", -1).due(-1, "said", 0);
+        withDairy(run).due(-1, "said", -1).whole(2, "sentence", "not dry").due(2, "said", -1).due(0, "said", 0).due(1, "said", 1).due(-1, "said", 2);
     }
 
     private static void firstAlongTheText() {

@@ -16,8 +16,10 @@ final class Quotes {
     static void find(String[] args) throws IOException {
         if (args.length > 0) {
             Path root = Path.of(args[0]).toAbsolutePath().normalize().getParent().getParent().getParent().getParent();
-            doc = plain(Files.readString(root.resolveSibling("shared").resolve("DOC.md")));
+            Path file = root.resolveSibling("shared").resolve("DOC.md");
+            doc = Files.isReadable(file) ? plain(Files.readString(file)) : null;
         }
+        System.out.println(doc == null ? "quotes are not compared with the document" : "quotes are compared with the document");
     }
 
     private static String plain(String text) {
